@@ -1183,7 +1183,7 @@ public final class NoHedgeTwice {
             if (set == 0) {
                 return without == 0 ? 0 : FOREVER;
             }
-            int a = Integer.numberOfTrailingZeros(set);
+            int a = lowestOf(set);
             int others = set & ~(1 << a);
             int least = without == 0 ? FOREVER : pairCost[(without - 1) * SETS + others];
             for (int b = a + 1; b < land.corners; b++) {
@@ -1192,6 +1192,15 @@ public final class NoHedgeTwice {
                 }
             }
             return least;
+        }
+
+        private static int lowestOf(int set) {
+            for (int c = 0; c < MAX_CORNERS; c++) {
+                if ((set >> c & 1) != 0) {
+                    return c;
+                }
+            }
+            return 0;
         }
 
         private int costWithPair(Land land, int a, int b, int others, int without) {
