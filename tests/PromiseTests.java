@@ -558,6 +558,23 @@ public final class PromiseTests {
         x.sheet(2, 3, 3, 0);
         check.due("meets(3), of LONG as it is now", x.meets(3), 3);
         check.due("meets(2)", x.meets(2), -2);
+        latestApart();
+    }
+
+    private static void latestApart() {
+        // one is at the second corner last in minute 99, the other from wait + 1 on
+        NoHedgeTwice x = Check.landed("@00;@30;@34;bc16:00~1;ab1:00");
+        Check.tour(x, 0, "bAAAAAAA");
+        Check.tour(x, 1, "aB");
+        check.due("apart(), of 99", x.apart(), 99);
+        check.due("meets(98)", x.meets(98), 99);
+        check.row(x, 1);
+        check.due("meets(99)", x.meets(99), -2);
+        x.set(1, 0, 0);
+        x.sheet(2, 2, 10, -9);
+        Check.tour(x, 0, "bAAAAAAAAAAA");
+        check.due("meets(99), last at minute 100", x.meets(99), 100);
+        check.due("apart(), of none", x.apart(), -2);
     }
 
     private static void seasons() {
@@ -890,6 +907,7 @@ public final class PromiseTests {
     private static void heard() {
         hearings();
         ways();
+        oneWay();
         quarrels();
     }
 
@@ -952,6 +970,24 @@ public final class PromiseTests {
         check.due("next() without ways", x.next(), -2);
         check.row(x, 8);
         check.due("next() without hedges", Check.landed("@00").next(), -2);
+    }
+
+    private static void oneWay() {
+        for (int n = 0; n <= 3; n += 3) {
+            NoHedgeTwice x = Check.landed("@00;@10;ab1:01;ab1:23;ab1:45");
+            for (int h = 0; h < 3; h++) {
+                x.heard(h, 2 * n);
+            }
+            check.due("lands() of one way", x.lands(), 1);
+            check.row(x, n * 111111);
+            check.due("sure() of one way", x.sure(), 63);
+            check.row(x, n, n, n, n, n, n);
+            check.due("next() of one way", x.next(), 0);
+            check.row(x, 1);
+            check.due("quarrel() of one way", x.quarrel(), -2);
+            check.due("lies() of one way", x.lies(), 0);
+            check.row(x, 0);
+        }
     }
 
     private static void quarrels() {
