@@ -11,6 +11,10 @@ final class Check {
         about = what;
     }
 
+    int asked() {
+        return asked;
+    }
+
     void due(String call, long got, long want) {
         asked++;
         if (got != want) {
