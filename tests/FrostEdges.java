@@ -35,11 +35,6 @@ public final class FrostEdges {
         return x;
     }
 
-    private static void asked(NoHedgeTwice x, String call, int got, int want, int... row) {
-        check.due(call, got, want);
-        check.row(x, row);
-    }
-
     // ---- promises 25 to 27
 
     private static void whatDoesNotMatter() {
@@ -47,11 +42,11 @@ public final class FrostEdges {
             NoHedgeTwice x = landed("ab5:00w9g");
             x.walk(0);
             x.rest(40);
-            asked(x, "most(0, 9999) of one that is walked, a GATE in the dark", x.most(0, 9999), 9, 1, 5);
-            asked(x, "soon(0, 9)", x.soon(0, 9), 5, 1);
+            check.dueRow(x, "most(0, 9999) of one that is walked, a GATE in the dark", x.most(0, 9999), 9, 1, 5);
+            check.dueRow(x, "soon(0, 9)", x.soon(0, 9), 5, 1);
             x.set(2, 0, 0);
-            asked(x, "most(0, 9999), no NIGHTS", x.most(0, 9999), 9, 1, 5);
-            asked(x, "home(0, 9999), no NIGHTS", x.home(0, 9999), 0, 0, 0);
+            check.dueRow(x, "most(0, 9999), no NIGHTS", x.most(0, 9999), 9, 1, 5);
+            check.dueRow(x, "home(0, 9999), no NIGHTS", x.home(0, 9999), 0, 0, 0);
             check.due("soon(0, 10), no NIGHTS", x.soon(0, 10), -2);
         });
     }
@@ -59,15 +54,15 @@ public final class FrostEdges {
     private static void most() {
         edges.edge(25, "The most WORTH that can be walked from a CORNER within so many minutes (0 .. 9999)", () -> {
             NoHedgeTwice x = landed("ab5:00w3~2;bc6:00w4");
-            asked(x, "most(0, 0)", x.most(0, 0), 0, 0, 0);
-            asked(x, "most(0, 4)", x.most(0, 4), 0, 0, 0);
-            asked(x, "most(0, 5)", x.most(0, 5), 3, 1, 5);
-            asked(x, "most(0, 10)", x.most(0, 10), 3, 1, 5);
-            asked(x, "most(0, 11)", x.most(0, 11), 7, 3, 11);
-            asked(x, "most(0, 9999)", x.most(0, 9999), 7, 3, 11);
-            asked(x, "most(2, 12), against the wind", x.most(2, 12), 4, 2, 6);
-            asked(x, "most(2, 13)", x.most(2, 13), 7, 3, 13);
-            asked(x, "most(9, 9999) where no HEDGE is", x.most(9, 9999), 0, 0, 0);
+            check.dueRow(x, "most(0, 0)", x.most(0, 0), 0, 0, 0);
+            check.dueRow(x, "most(0, 4)", x.most(0, 4), 0, 0, 0);
+            check.dueRow(x, "most(0, 5)", x.most(0, 5), 3, 1, 5);
+            check.dueRow(x, "most(0, 10)", x.most(0, 10), 3, 1, 5);
+            check.dueRow(x, "most(0, 11)", x.most(0, 11), 7, 3, 11);
+            check.dueRow(x, "most(0, 9999)", x.most(0, 9999), 7, 3, 11);
+            check.dueRow(x, "most(2, 12), against the wind", x.most(2, 12), 4, 2, 6);
+            check.dueRow(x, "most(2, 13)", x.most(2, 13), 7, 3, 13);
+            check.dueRow(x, "most(9, 9999) where no HEDGE is", x.most(9, 9999), 0, 0, 0);
         });
         edges.edge(25, "NONE: others", () -> {
             for (int minutes : new int[] {-1, 10000, MIN, MAX}) {
@@ -80,47 +75,47 @@ public final class FrostEdges {
         });
         edges.edge(25, "The most WORTH", () -> {
             NoHedgeTwice x = landed(DEAR, DEAR);
-            asked(x, "most(0, 14) of 14", x.most(0, 14), 126, EVERY, 14);
-            asked(x, "most(0, 13) of 14", x.most(0, 13), 117, EVERY >> 1, 13);
+            check.dueRow(x, "most(0, 14) of 14", x.most(0, 14), 126, EVERY, 14);
+            check.dueRow(x, "most(0, 13) of 14", x.most(0, 13), 117, EVERY >> 1, 13);
             for (int h = 0; h < 14; h++) {
                 x.set(1, h, 9);
             }
             x.sheet(2, 14, 20, 0);
-            asked(x, "most(1, 343) of the longest 14", x.most(1, 343), 126, EVERY, 343);
-            asked(x, "most(1, 342) of the longest 14", x.most(1, 342), 117, EVERY >> 1, 323);
+            check.dueRow(x, "most(1, 343) of the longest 14", x.most(1, 343), 126, EVERY, 343);
+            check.dueRow(x, "most(1, 342) of the longest 14", x.most(1, 342), 117, EVERY >> 1, 323);
         });
     }
 
     private static void mostOfEqual() {
         edges.edge(25, "of as much those with the fewest minutes, then the least number", () -> {
             NoHedgeTwice x = landed("ab5:00w4;ab4:00w4;ab4:00w4");
-            asked(x, "most(0, 5): fewer minutes", x.most(0, 5), 4, 2, 4);
+            check.dueRow(x, "most(0, 5): fewer minutes", x.most(0, 5), 4, 2, 4);
             x.sheet(2, 3, 5, 0);
-            asked(x, "most(0, 5): the least number", x.most(0, 5), 4, 1, 5);
-            asked(x, "most(0, 10): the least number", x.most(0, 10), 8, 3, 10);
+            check.dueRow(x, "most(0, 5): the least number", x.most(0, 5), 4, 1, 5);
+            check.dueRow(x, "most(0, 10): the least number", x.most(0, 10), 8, 3, 10);
         });
         edges.edge(25, "of as much those with the fewest minutes, then the least number", () -> {
             NoHedgeTwice x = landed("ab5:00w0;bc5:00w0");
-            asked(x, "most(0, 9999): nothing is worth a walk", x.most(0, 9999), 0, 0, 0);
+            check.dueRow(x, "most(0, 9999): nothing is worth a walk", x.most(0, 9999), 0, 0, 0);
             x.set(0, 1, 1);
-            asked(x, "most(0, 9999): by one that is worth nothing", x.most(0, 9999), 1, 3, 10);
+            check.dueRow(x, "most(0, 9999): by one that is worth nothing", x.most(0, 9999), 1, 3, 10);
             x = landed("ab5:00~9;bc5:00;ca5:00");
-            asked(x, "most(1, 9999): the shorter way about", x.most(1, 9999), 3, 7, 15);
+            check.dueRow(x, "most(1, 9999): the shorter way about", x.most(1, 9999), 3, 7, 15);
         });
     }
 
     private static void home() {
         edges.edge(26, "The same, back to that CORNER.", () -> {
             NoHedgeTwice x = landed("ab5:00w3;ba6:00w4;bc1:00w9");
-            asked(x, "home(0, 0)", x.home(0, 0), 0, 0, 0);
-            asked(x, "home(0, 10)", x.home(0, 10), 0, 0, 0);
-            asked(x, "home(0, 11)", x.home(0, 11), 7, 3, 11);
-            asked(x, "home(0, 9999)", x.home(0, 9999), 7, 3, 11);
-            asked(x, "home(2, 9999), a way out alone", x.home(2, 9999), 0, 0, 0);
-            asked(x, "home(9, 9999) where no HEDGE is", x.home(9, 9999), 0, 0, 0);
+            check.dueRow(x, "home(0, 0)", x.home(0, 0), 0, 0, 0);
+            check.dueRow(x, "home(0, 10)", x.home(0, 10), 0, 0, 0);
+            check.dueRow(x, "home(0, 11)", x.home(0, 11), 7, 3, 11);
+            check.dueRow(x, "home(0, 9999)", x.home(0, 9999), 7, 3, 11);
+            check.dueRow(x, "home(2, 9999), a way out alone", x.home(2, 9999), 0, 0, 0);
+            check.dueRow(x, "home(9, 9999) where no HEDGE is", x.home(9, 9999), 0, 0, 0);
             x = landed(DEAR, DEAR);
-            asked(x, "home(0, 14) of 14", x.home(0, 14), 126, EVERY, 14);
-            asked(x, "home(0, 13) of 14", x.home(0, 13), 108, EVERY >> 2, 12);
+            check.dueRow(x, "home(0, 14) of 14", x.home(0, 14), 126, EVERY, 14);
+            check.dueRow(x, "home(0, 13) of 14", x.home(0, 13), 108, EVERY >> 2, 12);
         });
         edges.edge(26, "The same", () -> {
             for (int minutes : new int[] {-1, 10000, MIN, MAX}) {
@@ -133,29 +128,29 @@ public final class FrostEdges {
         });
         edges.edge(26, "The same", () -> {
             NoHedgeTwice x = landed("ab5:00w3;ab5:00w3;ab5:00w3~1");
-            asked(x, "home(0, 9999): fewest minutes, then the least number", x.home(0, 9999), 6, 3, 10);
+            check.dueRow(x, "home(0, 9999): fewest minutes, then the least number", x.home(0, 9999), 6, 3, 10);
             x.set(1, 0, 2);
             x.set(1, 1, 1);
-            asked(x, "home(0, 9999): the fewest minutes", x.home(0, 9999), 6, 3, 11);
+            check.dueRow(x, "home(0, 9999): the fewest minutes", x.home(0, 9999), 6, 3, 11);
             x.set(0, 0, 2);
-            asked(x, "home(0, 9999): the most WORTH", x.home(0, 9999), 6, 6, 11);
+            check.dueRow(x, "home(0, 9999): the most WORTH", x.home(0, 9999), 6, 6, 11);
         });
     }
 
     private static void soon() {
         edges.edge(27, "The fewest minutes from a CORNER till WORTHS together are v or more (v 0 .. 200)", () -> {
             NoHedgeTwice x = landed("ab5:00w3~2;bc6:00w4");
-            asked(x, "soon(0, 0)", x.soon(0, 0), 0, 0);
-            asked(x, "soon(0, 1)", x.soon(0, 1), 5, 1);
-            asked(x, "soon(0, 3)", x.soon(0, 3), 5, 1);
-            asked(x, "soon(0, 4)", x.soon(0, 4), 11, 3);
-            asked(x, "soon(0, 7)", x.soon(0, 7), 11, 3);
-            asked(x, "soon(2, 7), against the wind", x.soon(2, 7), 13, 3);
-            asked(x, "soon(9, 0) where no HEDGE is", x.soon(9, 0), 0, 0);
+            check.dueRow(x, "soon(0, 0)", x.soon(0, 0), 0, 0);
+            check.dueRow(x, "soon(0, 1)", x.soon(0, 1), 5, 1);
+            check.dueRow(x, "soon(0, 3)", x.soon(0, 3), 5, 1);
+            check.dueRow(x, "soon(0, 4)", x.soon(0, 4), 11, 3);
+            check.dueRow(x, "soon(0, 7)", x.soon(0, 7), 11, 3);
+            check.dueRow(x, "soon(2, 7), against the wind", x.soon(2, 7), 13, 3);
+            check.dueRow(x, "soon(9, 0) where no HEDGE is", x.soon(9, 0), 0, 0);
             x = landed(DEAR, DEAR);
-            asked(x, "soon(0, 126) of 14", x.soon(0, 126), 14, EVERY);
-            asked(x, "soon(0, 117) of 14", x.soon(0, 117), 13, EVERY >> 1);
-            asked(x, "soon(0, 118) of 14", x.soon(0, 118), 14, EVERY);
+            check.dueRow(x, "soon(0, 126) of 14", x.soon(0, 126), 14, EVERY);
+            check.dueRow(x, "soon(0, 117) of 14", x.soon(0, 117), 13, EVERY >> 1);
+            check.dueRow(x, "soon(0, 118) of 14", x.soon(0, 118), 14, EVERY);
         });
         edges.edge(27, "-2: never", () -> {
             for (int v : new int[] {127, 199, 200}) {
@@ -183,11 +178,11 @@ public final class FrostEdges {
     private static void soonOfEqual() {
         edges.edge(27, "of as few the least number", () -> {
             NoHedgeTwice x = landed("ab5:00w1;ab4:00w4;ab4:00w9");
-            asked(x, "soon(0, 4): the first, though another is worth more", x.soon(0, 4), 4, 2);
-            asked(x, "soon(0, 5)", x.soon(0, 5), 4, 4);
-            asked(x, "soon(0, 10): HEDGES 0 and 2, or 1 and 2", x.soon(0, 10), 8, 6);
+            check.dueRow(x, "soon(0, 4): the first, though another is worth more", x.soon(0, 4), 4, 2);
+            check.dueRow(x, "soon(0, 5)", x.soon(0, 5), 4, 4);
+            check.dueRow(x, "soon(0, 10): HEDGES 0 and 2, or 1 and 2", x.soon(0, 10), 8, 6);
             x.sheet(2, 3, 4, 0);
-            asked(x, "soon(0, 10): HEDGES 0 and 2, as few minutes", x.soon(0, 10), 8, 5);
+            check.dueRow(x, "soon(0, 10): HEDGES 0 and 2, as few minutes", x.soon(0, 10), 8, 5);
         });
     }
 
@@ -280,37 +275,54 @@ public final class FrostEdges {
         edges.edge(30, "The fewest minutes from a CORNER till all GATES were walked", () -> {
             NoHedgeTwice x = landed("ab5:00;bc5:00");
             x.odd();
-            asked(x, "gates(0) without GATES", x.gates(0), 0);
+            check.dueRow(x, "gates(0) without GATES", x.gates(0), 0);
             x.odd();
-            asked(x, "gates(9) without GATES, where no HEDGE is", x.gates(9), 0);
+            check.dueRow(x, "gates(9) without GATES, where no HEDGE is", x.gates(9), 0);
             check.due("gates(0) without HEDGES", landed().gates(0), 0);
             x = landed("ab5:00~3g");
-            asked(x, "gates(0) of one", x.gates(0), 5, 0);
-            asked(x, "gates(1) of one, against the wind", x.gates(1), 8, 0);
+            check.dueRow(x, "gates(0) of one", x.gates(0), 5, 0);
+            check.dueRow(x, "gates(1) of one, against the wind", x.gates(1), 8, 0);
             x = landed(GATES, GATES);
-            asked(x, "gates(0) of 14", x.gates(0), 14, 0, 1, 2, 3, 4, 5, 6, 7, 8, 9, 10, 11, 12, 13);
-            asked(x, "gates(1) of 14", x.gates(1), 14, 0, 1, 2, 3, 4, 5, 6, 7, 8, 9, 10, 11, 12, 13);
+            check.dueRow(x, "gates(0) of 14", x.gates(0), 14, 0, 1, 2, 3, 4, 5, 6, 7, 8, 9, 10, 11, 12, 13);
+            check.dueRow(x, "gates(1) of 14", x.gates(1), 14, 0, 1, 2, 3, 4, 5, 6, 7, 8, 9, 10, 11, 12, 13);
         });
     }
 
     private static void gatesShut() {
         edges.edge(30, "each of which shuts behind one for ever", () -> {
             NoHedgeTwice x = landed("ab5:00g;ac5:00g");
-            asked(x, "gates(1)", x.gates(1), 10, 0, 1);
-            asked(x, "gates(2)", x.gates(2), 10, 1, 0);
+            check.dueRow(x, "gates(1)", x.gates(1), 10, 0, 1);
+            check.dueRow(x, "gates(2)", x.gates(2), 10, 1, 0);
             check.due("gates(0): the one that is walked shuts", x.gates(0), -2);
             x = landed("ab5:00g;ac5:00g;ba9:00~9");
-            asked(x, "gates(0), back by a HEDGE", x.gates(0), 19, 0, 1);
+            check.dueRow(x, "gates(0), back by a HEDGE", x.gates(0), 19, 0, 1);
         });
         edges.edge(30, "(all other HEDGES may be walked as often as one likes; LIGHT, NIGHTS do not matter)", () -> {
             NoHedgeTwice x = Check.landed(TEN, "ab5:00~2;bc5:00g;bc5:00g;ad5:00g");
             x.walk(0);
             x.rest(40);
-            asked(x, "gates(0), to and fro by one that is walked", x.gates(0), 27, 1, 2, 3);
-            asked(x, "gates(3)", x.gates(3), 20, 3, 1, 2);
+            check.dueRow(x, "gates(0), to and fro by one that is walked", x.gates(0), 27, 1, 2, 3);
+            check.dueRow(x, "gates(3)", x.gates(3), 20, 3, 1, 2);
+            for (int time = 0; time < 40; time++) {
+                check.dueRow(x, "gates(1), once more", x.gates(1), 22, 1, 2, 3);
+            }
             x = Check.landed(TEN, "ab1:00;ac9:00g;ac9:00g;bd9:00g;bd9:00g;ae9:00g;ae9:00g");
-            asked(x, "gates(0), there and back", x.gates(0), 55, 1, 2, 5, 6, 3, 4);
-            asked(x, "gates(1), there and back", x.gates(1), 55, 3, 4, 1, 2, 5, 6);
+            check.dueRow(x, "gates(0), there and back", x.gates(0), 55, 1, 2, 5, 6, 3, 4);
+            check.dueRow(x, "gates(1), there and back", x.gates(1), 55, 3, 4, 1, 2, 5, 6);
+        });
+        edges.edge(30, "(all other HEDGES may be walked as often as one likes", () -> {
+            NoHedgeTwice x = Check.landed(TEN, "bd5:00;da5:00;ac5:00~1;ce5:00g");
+            check.dueRow(x, "gates(1), by three HEDGES", x.gates(1), 20, 3);
+            check.dueRow(x, "gates(4), the GATE first", x.gates(4), 5, 3);
+            Check.land(x, "fb1:00~2g");
+            check.dueRow(x, "gates(4), all the way back", x.gates(4), 24, 3, 4);
+            check.dueRow(x, "gates(5), all the way", x.gates(5), 21, 4, 3);
+            Check.land(x, "bc14:00");
+            check.dueRow(x, "gates(5), by a shorter way", x.gates(5), 20, 4, 3);
+            Check.land(x, "ab3:00");
+            check.dueRow(x, "gates(5), by two of them", x.gates(5), 14, 4, 3);
+            x = landed("cb5:00;ba5:00;ad5:00g");
+            check.dueRow(x, "gates(2), to a by two of them", x.gates(2), 15, 2);
         });
     }
 
@@ -320,6 +332,8 @@ public final class FrostEdges {
             cannot("three ends", "ab5:00g;ac5:00g;ad5:00g", 0);
             cannot("begun between", "ab5:00g;ac5:00g", 0);
             cannot("two parts", "ab5:00g;cd5:00g", 0);
+            cannot("a round elsewhere", "ab5:00;cd5:00g;dc5:00g", 0);
+            cannot("a round elsewhere, and one here", "ab5:00g;ba5:00g;cd5:00g;dc5:00g", 1);
             cannot("two parts, the way between is a GATE that is needed twice", "ab5:00g;bc5:00g;bd5:00g;ae5:00g", 0);
         });
     }
@@ -335,23 +349,23 @@ public final class FrostEdges {
     private static void gatesOfEqual() {
         edges.edge(30, "of equal ones the least row", () -> {
             NoHedgeTwice x = landed("bc5:00g;ab5:00g;ac5:00g");
-            asked(x, "gates(0) of a round", x.gates(0), 15, 1, 0, 2);
+            check.dueRow(x, "gates(0) of a round", x.gates(0), 15, 1, 0, 2);
             x.set(1, 0, 0);
             x.set(1, 1, 1);
-            asked(x, "gates(0), the wind against neither", x.gates(0), 15, 1, 0, 2);
+            check.dueRow(x, "gates(0), the wind against neither", x.gates(0), 15, 1, 0, 2);
             x.set(1, 2, 2);
-            asked(x, "gates(0), against HEDGES 0 and 1 rather than 2", x.gates(0), 16, 2, 0, 1);
+            check.dueRow(x, "gates(0), against HEDGES 0 and 1 rather than 2", x.gates(0), 16, 2, 0, 1);
             x = landed("ab5:00;bc5:00g;ab5:00g");
-            asked(x, "gates(0): the GATE ahead, or the HEDGE", x.gates(0), 10, 2, 1);
-            asked(x, "gates(2)", x.gates(2), 10, 1, 2);
+            check.dueRow(x, "gates(0): the GATE ahead, or the HEDGE", x.gates(0), 10, 2, 1);
+            check.dueRow(x, "gates(2)", x.gates(2), 10, 1, 2);
         });
         edges.edge(30, "the ROW: GATES in order", () -> {
             NoHedgeTwice x = landed("ab5:00g;ab9:00;ab5:00g;ba5:00g");
-            asked(x, "gates(0), told by their HEDGES' numbers", x.gates(0), 15, 0, 2, 3);
+            check.dueRow(x, "gates(0), told by their HEDGES' numbers", x.gates(0), 15, 0, 2, 3);
             x.set(1, 0, 1);
-            asked(x, "gates(0), the wind on the way back", x.gates(0), 15, 0, 2, 3);
+            check.dueRow(x, "gates(0), the wind on the way back", x.gates(0), 15, 0, 2, 3);
             x.set(1, 2, 1);
-            asked(x, "gates(0), one with the wind, one not", x.gates(0), 15, 0, 3, 2);
+            check.dueRow(x, "gates(0), one with the wind, one not", x.gates(0), 15, 0, 3, 2);
         });
     }
 }

@@ -218,6 +218,10 @@ public final class LandEdges {
             land(x, ";@00", -1);
             land(x, "@00;;@00", -5);
             land(x, "@00@00", -4);
+            land(x, "5:00", -1);
+            land(x, ":00", -1);
+            land(x, "a5:00", -2);
+            land(x, "a:00", -2);
             land(x, "ab1:00ab1:00", -7);
             land(x, "@00,@00", -4);
             size(x, 4, 1);
@@ -564,6 +568,10 @@ public final class LandEdges {
             land(x, "ab1:00", -1);
             land(x, "ab", -1);
             land(x, "aa0", -1);
+            land(x, ";", -1);
+            land(x, ";@11", -1);
+            land(x, "@11;;@22", -5);
+            land(x, "@11;", -5);
             land(x, "@11;ab1:00", -5);
             land(x, "@11", 1);
             size(x, 3, 14);

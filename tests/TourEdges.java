@@ -386,6 +386,13 @@ public final class TourEdges {
             x = both("ab5:00~1;ab6:00", "a", "bA");
             x.set(1, 0, 9);
             met(x, 0, 14, 0);
+            x = both("ab5:00~1;ab6:00", "aA", "b");
+            x.sheet(2, 2, 20, 0);
+            met(x, 0, 20, 1);
+            x = both("ab5:00;bc5:00", "aAB", "cBA");
+            check.due("apart()", x.apart(), 1);
+            x.sheet(2, 2, 5, 1);
+            check.due("apart(), HEDGE 1 is longer now", x.apart(), 0);
         });
     }
 

@@ -26,6 +26,12 @@ final class Check {
         due(call, got ? 1 : 0, want ? 1 : 0);
     }
 
+    /** An answer, and the ROW that comes with it. */
+    void dueRow(NoHedgeTwice x, String call, long got, long want, int... row) {
+        due(call, got, want);
+        row(x, row);
+    }
+
     void row(NoHedgeTwice x, int... want) {
         asked++;
         int[] got = rowOf(x);
