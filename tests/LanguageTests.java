@@ -120,7 +120,8 @@ public final class LanguageTests {
             String line = made.group(2);
             boolean kept = line.startsWith("private final") || line.startsWith("final")
                 || line.startsWith("throw new NoSuchElementException(\"\")")
-                || line.equals("tours[i] = new Tour();") || line.equals("kept[i] = new Spot();");
+                || line.equals("tours[i] = new Tour();") || line.equals("kept[i] = new Spot();")
+                || line.equals("fours = new long[places / 4 + 1];");
             holds("made once: " + line, kept);
         }
     }

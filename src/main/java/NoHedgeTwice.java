@@ -27,7 +27,8 @@ public final class NoHedgeTwice {
     private static final int MAX_WISH = 200;
     private static final int DAY_MINUTES = 60;
     private static final int LIGHT_MINUTES = 40;
-    private static final int FOREVER = 1000000;
+    /** More than any minutes or GRASS can be; what Numbers can hold at most. */
+    private static final int FOREVER = 65535;
 
     private static final int NOT_HERE = -2;
     private static final int NOT_FRESH = -3;
@@ -42,7 +43,6 @@ public final class NoHedgeTwice {
     private final Row told = new Row();
     private final Spot walker = new Spot();
     private final Spot scout = new Spot();
-    private final Season year = new Season();
     private final Steps steps = new Steps();
     private final Tour[] tours = new Tour[TOURS];
     private final Rounds rounds = new Rounds();
@@ -306,10 +306,25 @@ public final class NoHedgeTwice {
             return NONE;
         }
         steps.count = 0;
-        year.spend(ground, walker, n);
-        told.tell(year.worths);
+        int walks = 0;
+        int worths = 0;
+        int days = 0;
+        boolean on = walker.isLight() || walker.toNextDay(ground);
+        // each walk takes a minute or more and ends by FROST: so many turns are enough
+        for (int turn = 0; turn <= MAX_MINUTES + MAX_SEASON && on && days < n; turn++) {
+            int h = walker.isLight() ? walker.dearest(ground) : NONE;
+            if (h == NONE) {
+                days++;
+                on = walker.toNextDay(ground);
+            } else {
+                walker.step(ground, h);
+                walks++;
+                worths += ground.worth[h];
+            }
+        }
+        told.tell(worths);
         told.add(walkersCorner());
-        return year.walks;
+        return walks;
     }
 
     private int walkersCorner() {
@@ -474,7 +489,7 @@ public final class NoHedgeTwice {
         int found = ears.findWays(ground);
         told.clear();
         if (found > 0) {
-            told.add(Ears.asDigits(ears.ways[0]));
+            told.add(Ears.asDigits(ears.leastWay));
         }
         return found;
     }
@@ -485,12 +500,12 @@ public final class NoHedgeTwice {
         if (found == 0) {
             return 0;
         }
-        int differ = ears.differences(found);
+        int differ = ears.differences();
         int bits = 0;
         for (int field = 0; field < FIELDS; field++) {
             if (Ears.cowsIn(differ, field) == 0) {
                 bits |= 1 << field;
-                told.add(Ears.cowsIn(ears.ways[0], field));
+                told.add(Ears.cowsIn(ears.leastWay, field));
             }
         }
         return bits;
@@ -504,7 +519,7 @@ public final class NoHedgeTwice {
         int best = 0;
         int least = WAYS + 1;
         for (int h = 0; h < ground.hedges; h++) {
-            int worst = ears.mostLeft(ground, h, found);
+            int worst = ears.mostLeft(ground, h);
             if (worst < least) {
                 least = worst;
                 best = h;
@@ -908,6 +923,18 @@ public final class NoHedgeTwice {
             return minutes;
         }
 
+        /** The HEDGE with the greatest WORTH of those that can be walked; NONE if none can. */
+        int dearest(Land land) {
+            int best = NONE;
+            for (int h = 0; h < land.hedges; h++) {
+                boolean better = best == NONE || land.worth[h] > land.worth[best];
+                if (better && whyNot(land, h) == 0) {
+                    best = h;
+                }
+            }
+            return best;
+        }
+
         /** False if FROST comes first. */
         boolean toNextDay(Land land) {
             int dawn = (day() + 1) * DAY_MINUTES;
@@ -948,46 +975,6 @@ public final class NoHedgeTwice {
             spot.time = time[top];
             spot.lastDay[hedge[top]] = lastDay[top];
             return true;
-        }
-    }
-
-    /** DAYS of walking by what is worth most. */
-    private static final class Season {
-        int walks = 0;
-        int worths = 0;
-
-        void spend(Land land, Spot spot, int days) {
-            walks = 0;
-            worths = 0;
-            boolean on = spot.isLight() || spot.toNextDay(land);
-            for (int d = 0; d < days && on; d++) {
-                walkByLight(land, spot);
-                on = spot.toNextDay(land);
-            }
-        }
-
-        /** Each walk takes a minute or more and ends by FROST: so many are enough. */
-        private void walkByLight(Land land, Spot spot) {
-            for (int k = 0; k <= MAX_MINUTES && spot.isLight(); k++) {
-                int h = dearest(land, spot);
-                if (h < 0) {
-                    return;
-                }
-                spot.step(land, h);
-                walks++;
-                worths += land.worth[h];
-            }
-        }
-
-        private static int dearest(Land land, Spot spot) {
-            int best = -1;
-            for (int h = 0; h < land.hedges; h++) {
-                boolean better = best < 0 || land.worth[h] > land.worth[best];
-                if (better && spot.whyNot(land, h) == 0) {
-                    best = h;
-                }
-            }
-            return best;
         }
     }
 
@@ -1080,7 +1067,7 @@ public final class NoHedgeTwice {
 
         private final int[] outward = new int[MAX_CORNERS];
         private final int[] inward = new int[MAX_CORNERS];
-        private final int[] pairCost = new int[3 * SETS];
+        private final Numbers pairCost = new Numbers(3 * SETS);
 
         /** For when all of them can be walked so from the CORNER. */
         int leastTrail(Land land, int corner, Row row) {
@@ -1172,11 +1159,11 @@ public final class NoHedgeTwice {
             int odd = land.oddCorners(land.everyHedge());
             for (int without = 0; without <= alone; without++) {
                 for (int set = 0; set < 1 << land.corners; set++) {
-                    pairCost[without * SETS + set] = (set & ~odd) == 0 ? costOf(land, set, without) : FOREVER;
+                    pairCost.put(without * SETS + set, (set & ~odd) == 0 ? costOf(land, set, without) : FOREVER);
                 }
             }
             tellPairs(land, odd, alone, row);
-            return pairCost[alone * SETS + odd];
+            return pairCost.at(alone * SETS + odd);
         }
 
         private int costOf(Land land, int set, int without) {
@@ -1185,7 +1172,7 @@ public final class NoHedgeTwice {
             }
             int a = lowestOf(set);
             int others = set & ~(1 << a);
-            int least = without == 0 ? FOREVER : pairCost[(without - 1) * SETS + others];
+            int least = without == 0 ? FOREVER : pairCost.at((without - 1) * SETS + others);
             for (int b = a + 1; b < land.corners; b++) {
                 if ((others >> b & 1) != 0) {
                     least = Math.min(least, costWithPair(land, a, b, others, without));
@@ -1204,7 +1191,7 @@ public final class NoHedgeTwice {
         }
 
         private int costWithPair(Land land, int a, int b, int others, int without) {
-            int rest = pairCost[without * SETS + (others & ~(1 << b))];
+            int rest = pairCost.at(without * SETS + (others & ~(1 << b)));
             return Math.min(FOREVER, rest + land.grassBetween(a, b));
         }
 
@@ -1232,7 +1219,7 @@ public final class NoHedgeTwice {
             int others = set & ~(1 << a);
             for (int b = a + 1; b < land.corners; b++) {
                 if ((others >> b & 1) != 0
-                        && costWithPair(land, a, b, others, without) == pairCost[without * SETS + set]) {
+                        && costWithPair(land, a, b, others, without) == pairCost.at(without * SETS + set)) {
                     return b;
                 }
             }
@@ -1240,54 +1227,92 @@ public final class NoHedgeTwice {
         }
     }
 
+    /**
+     * A number of 0 .. FOREVER for each place, four of them in a long: the room that
+     * all calls of a run share is counted by elements.
+     */
+    private static final class Numbers {
+        private final int places;
+        private final long[] fours;
+
+        Numbers(int size) {
+            places = Math.max(0, size);
+            fours = new long[places / 4 + 1];
+        }
+
+        void fillWithForever(int size) {
+            for (int k = 0; k <= size / 4 && k < fours.length; k++) {
+                fours[k] = -1L;
+            }
+        }
+
+        int at(int place) {
+            if (place < 0 || place >= places) {
+                return FOREVER;
+            }
+            return (int) (fours[place >> 2] >> shiftOf(place)) & FOREVER;
+        }
+
+        void put(int place, int v) {
+            if (place >= 0 && place < places) {
+                long others = fours[place >> 2] & ~((long) FOREVER << shiftOf(place));
+                fours[place >> 2] = others | (long) Math.min(v, FOREVER) << shiftOf(place);
+            }
+        }
+
+        private static int shiftOf(int place) {
+            return (place & 3) << 4;
+        }
+    }
+
     /** Walks over some of the HEDGES, each at most once. */
     private static final class Trips {
         /**
          * Of each set of HEDGES the fewest minutes of a walk over all of them, times
-         * 16, and the CORNER where it ends; -1 if there is none. Where it ends follows
-         * from the set: there and where it began alone can an odd number of them end.
+         * 16, and the CORNER where it ends; FOREVER if there is none. Where it ends
+         * follows from the set: there and where it began alone can an odd number of
+         * them end.
          */
-        private final int[] fewest = new int[1 << MAX_HEDGES];
+        private final Numbers fewest = new Numbers(1 << MAX_HEDGES);
         private int sets = 1;
 
         void explore(Land land, int corner, int limit) {
             sets = 1 << land.hedges;
-            for (int set = 1; set < sets; set++) {
-                fewest[set] = -1;
-            }
-            fewest[0] = corner;
+            fewest.fillWithForever(sets);
+            fewest.put(0, corner);
             for (int set = 0; set < sets; set++) {
-                if (fewest[set] >= 0) {
-                    extend(land, set, limit);
+                int entry = fewest.at(set);
+                if (entry < FOREVER) {
+                    extend(land, set, entry, limit);
                 }
             }
         }
 
-        private void extend(Land land, int set, int limit) {
-            int at = fewest[set] & 15;
-            int before = fewest[set] >> 4;
+        private void extend(Land land, int set, int entry, int limit) {
+            int at = entry & 15;
+            int before = entry >> 4;
             for (int h = 0; h < land.hedges; h++) {
                 if ((set >> h & 1) == 0 && land.touches(h, at)) {
                     int minutes = before + land.minutesFrom(h, at);
-                    int entry = minutes << 4 | land.otherEnd(h, at);
+                    int longer = minutes << 4 | land.otherEnd(h, at);
                     int larger = set | 1 << h;
-                    if (minutes <= limit && (fewest[larger] < 0 || entry < fewest[larger])) {
-                        fewest[larger] = entry;
+                    if (minutes <= limit && longer < fewest.at(larger)) {
+                        fewest.put(larger, longer);
                     }
                 }
             }
         }
 
         int minutesOf(int set) {
-            return set >= 0 && set < sets ? fewest[set] >> 4 : 0;
+            return fewest.at(set) >> 4;
         }
 
         int dearest(Land land, int corner, boolean back) {
             int best = 0;
             int most = 0;
             for (int set = 1; set < sets; set++) {
-                boolean fits = fewest[set] >= 0 && (!back || (fewest[set] & 15) == corner);
-                if (fits) {
+                int entry = fewest.at(set);
+                if (entry < FOREVER && (!back || (entry & 15) == corner)) {
                     int worth = land.worthOf(set);
                     if (worth > most || (worth == most && minutesOf(set) < minutesOf(best))) {
                         most = worth;
@@ -1302,8 +1327,9 @@ public final class NoHedgeTwice {
             int best = -1;
             int least = FOREVER;
             for (int set = 0; set < sets; set++) {
-                if (fewest[set] >= 0 && minutesOf(set) < least && land.worthOf(set) >= wish) {
-                    least = minutesOf(set);
+                int entry = fewest.at(set);
+                if (entry < FOREVER && entry >> 4 < least && land.worthOf(set) >= wish) {
+                    least = entry >> 4;
                     best = set;
                 }
             }
@@ -1324,7 +1350,7 @@ public final class NoHedgeTwice {
         private final int[] part = new int[MAX_CORNERS];
         private final int[] rank = new int[MAX_CORNERS];
         private final int[][] path = new int[MAX_CORNERS][MAX_CORNERS];
-        private final int[] fewest = new int[1 << MAX_HEDGES];
+        private final Numbers fewest = new Numbers(1 << MAX_HEDGES);
 
         void prepare(Land land) {
             gateCount = 0;
@@ -1401,17 +1427,16 @@ public final class NoHedgeTwice {
                 int here = partAfter(land, corner, walked);
                 for (int c = 0; c < land.corners; c++) {
                     if (part[c] == here) {
-                        fewest[placeOf(walked, c)] = walked == all ? 0 : bestOn(land, walked, c);
+                        fewest.put(placeOf(walked, c), walked == all ? 0 : bestOn(land, walked, c));
                     }
                 }
             }
-            int minutes = fewest[placeOf(0, corner)];
+            int minutes = fewest.at(placeOf(0, corner));
             return minutes < FOREVER ? minutes : -1;
         }
 
         private int placeOf(int walked, int c) {
-            int place = walked * stride + rank[c];
-            return place >= 0 && place < 1 << MAX_HEDGES ? place : 0;
+            return walked * stride + rank[c];
         }
 
         private int bestOn(Land land, int walked, int c) {
@@ -1432,7 +1457,7 @@ public final class NoHedgeTwice {
                 return FOREVER;
             }
             int h = gateHedge[g];
-            int then = fewest[placeOf(walked | 1 << g, land.otherEnd(h, from))];
+            int then = fewest.at(placeOf(walked | 1 << g, land.otherEnd(h, from)));
             return Math.min(FOREVER, path[c][from] + land.minutesFrom(h, from) + then);
         }
 
@@ -1463,7 +1488,7 @@ public final class NoHedgeTwice {
             int ends = 0;
             for (int c = 0; c < land.corners; c++) {
                 if ((at >> c & 1) != 0) {
-                    int best = fewest[placeOf(walked, c)];
+                    int best = fewest.at(placeOf(walked, c));
                     if (minutesBy(land, walked, c, g, land.first[h]) == best) {
                         ends |= 1 << land.second[h];
                     }
@@ -1482,7 +1507,9 @@ public final class NoHedgeTwice {
      */
     private static final class Ears {
         int count = 0;
-        final int[] ways = new int[WAYS];
+        /** The least of the ways found last. */
+        int leastWay = 0;
+        private final long[] holding = new long[WAYS / 64];
         private final int[] hedge = new int[MAX_HEARINGS];
         private final int[] cows = new int[MAX_HEARINGS];
         private final int[] tally = new int[2 * MAX_COWS + 1];
@@ -1542,33 +1569,45 @@ public final class NoHedgeTwice {
         }
 
         int findWays(Land land) {
+            for (int k = 0; k < WAYS / 64; k++) {
+                holding[k] = 0;
+            }
             int found = 0;
-            for (int way = 0; way < WAYS; way++) {
+            for (int way = WAYS - 1; way >= 0; way--) {
                 if (allHold(land, way, all())) {
-                    ways[found] = way;
+                    holding[way >> 6] |= 1L << (way & 63);
+                    leastWay = way;
                     found++;
                 }
             }
             return found;
         }
 
-        int differences(int found) {
+        private boolean isFound(int way) {
+            return (holding[way >> 6] >> (way & 63) & 1) != 0;
+        }
+
+        int differences() {
             int bits = 0;
-            for (int k = 0; k < found; k++) {
-                bits |= ways[k] ^ ways[0];
+            for (int way = 0; way < WAYS; way++) {
+                if (isFound(way)) {
+                    bits |= way ^ leastWay;
+                }
             }
             return bits;
         }
 
-        int mostLeft(Land land, int h, int found) {
+        int mostLeft(Land land, int h) {
             for (int n = 0; n <= 2 * MAX_COWS; n++) {
                 tally[n] = 0;
             }
             int most = 0;
-            for (int k = 0; k < found; k++) {
-                int n = cowsOver(land, h, ways[k]);
-                tally[n]++;
-                most = Math.max(most, tally[n]);
+            for (int way = 0; way < WAYS; way++) {
+                if (isFound(way)) {
+                    int n = cowsOver(land, h, way);
+                    tally[n]++;
+                    most = Math.max(most, tally[n]);
+                }
             }
             return most;
         }
