@@ -1,18 +1,14 @@
 import java.io.IOException;
 import java.lang.reflect.Method;
 import java.lang.reflect.Modifier;
-import java.net.URL;
-import java.net.URLClassLoader;
 import java.nio.file.Files;
 import java.nio.file.Path;
 import java.util.ArrayList;
 import java.util.List;
-import java.util.Scanner;
 import java.util.regex.Matcher;
 import java.util.regex.Pattern;
-import javax.tools.ToolProvider;
 
-/** README.md: its program does what it says, and it names each call. */
+/** README.md: its program does what it says, and it names each call and each test. */
 public final class ReadmeTests {
     private static final Check check = new Check();
     private static final Pattern PROGRAM = Pattern.compile("(?s)```java\n(public class (\\w+) .*?)```");
@@ -29,7 +25,10 @@ public final class ReadmeTests {
     private static void program(String page) throws Exception {
         check.about("the program of README.md");
         Matcher found = PROGRAM.matcher(page);
-        check.due("there is a program", found.find(), true);
+        if (!found.find()) {
+            check.fault("there is none");
+            return;
+        }
         String code = found.group(1);
         List<String> calls = new ArrayList<>();
         List<String> due = new ArrayList<>();
@@ -38,44 +37,31 @@ public final class ReadmeTests {
             calls.add(told.group(1));
             due.add(told.group(2));
         }
-        check.due("it tells what calls answer", calls.size() > 20, true);
-        check.due("each line with an answer was read", told(code), calls.size());
-        List<String> got = answersOf(found.group(2), told.replaceAll("System.getProperties().merge(\"readme\", "
-            + "$1 + \"\\\\n\", (a, b) -> a.toString() + b);"));
-        for (int k = 0; k < calls.size(); k++) {
-            String answer = k < got.size() ? got.get(k) : "nothing";
-            if (!answer.equals(due.get(k))) {
-                check.fault(calls.get(k) + " answered " + answer + ", README.md says " + due.get(k));
-            }
+        check.due("answers it tells", calls.size() > 20, true);
+        check.due("each line that tells an answer is read", calls.size(),
+            Pattern.compile("; +// ").matcher(code).results().count());
+        List<String> got = printed(found.group(2), told.replaceAll("System.out.println($1);"));
+        check.due("lines printed", got.size(), calls.size());
+        for (int k = 0; k < Math.min(got.size(), calls.size()); k++) {
+            check.due(calls.get(k) + " answered " + got.get(k) + ", README.md says " + due.get(k),
+                got.get(k).equals(due.get(k)), true);
         }
     }
 
-    private static int told(String code) {
-        return (int) Pattern.compile("(?m); +// ").matcher(code).results().count();
-    }
-
-    /** Each call's answer is put behind a property, as a line. */
-    private static List<String> answersOf(String name, String code) throws Exception {
+    private static List<String> printed(String name, String code) throws Exception {
         Path made = Files.createTempDirectory("readme");
-        Path source = Files.writeString(made.resolve(name + ".java"), code);
-        int failed = ToolProvider.getSystemJavaCompiler().run(null, null, null, "-d", made.toString(),
-            source.toString(), "src/main/java/NoHedgeTwice.java");
-        check.due("javac", failed, 0);
-        System.setProperty("readme", "");
-        if (failed == 0) {
-            try (URLClassLoader loader = new URLClassLoader(new URL[] {made.toUri().toURL()},
-                    ClassLoader.getPlatformClassLoader())) {
-                loader.loadClass(name).getMethod("main", String[].class).invoke(null, (Object) new String[0]);
-            }
-        }
+        String source = Files.writeString(made.resolve(name + ".java"), code).toString();
+        Path lines = made.resolve("printed");
+        int failed = run(lines, "javac", "-d", made.toString(), source, "src/main/java/NoHedgeTwice.java");
+        check.due("javac of it", failed, 0);
+        check.due("java of it", run(lines, "java", "-cp", made.toString(), name), 0);
+        List<String> all = Files.readAllLines(lines);
         delete(made);
-        List<String> lines = new ArrayList<>();
-        try (Scanner all = new Scanner(System.getProperty("readme"))) {
-            while (all.hasNextLine()) {
-                lines.add(all.nextLine());
-            }
-        }
-        return lines;
+        return all;
+    }
+
+    private static int run(Path lines, String... command) throws Exception {
+        return new ProcessBuilder(command).redirectErrorStream(true).redirectOutput(lines.toFile()).start().waitFor();
     }
 
     private static void delete(Path made) throws IOException {

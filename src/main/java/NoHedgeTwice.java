@@ -1250,18 +1250,15 @@ public final class NoHedgeTwice {
             if (place < 0 || place >= places) {
                 return FOREVER;
             }
-            return (int) (fours[place >> 2] >> shiftOf(place)) & FOREVER;
+            return (int) (fours[place >> 2] >> ((place & 3) << 4)) & FOREVER;
         }
 
         void put(int place, int v) {
             if (place >= 0 && place < places) {
-                long others = fours[place >> 2] & ~((long) FOREVER << shiftOf(place));
-                fours[place >> 2] = others | (long) Math.min(v, FOREVER) << shiftOf(place);
+                int shift = (place & 3) << 4;
+                long others = fours[place >> 2] & ~((long) FOREVER << shift);
+                fours[place >> 2] = others | (long) Math.min(v, FOREVER) << shift;
             }
-        }
-
-        private static int shiftOf(int place) {
-            return (place & 3) << 4;
         }
     }
 
